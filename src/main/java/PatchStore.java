@@ -883,8 +883,6 @@ public final class PatchStore {
 
     /** Reads a path; every method answers null where it is none. */
     private static final class PathReader {
-        private static final int BROKEN = 1001;
-
         private final Cursor cursor;
 
         PathReader(Cursor cursor) {
@@ -939,7 +937,7 @@ public final class PatchStore {
             if (!dotted) {
                 return null;
             }
-            Selector only = cursor.took('*') ? Selector.all() : named(cursor.name());
+            Selector only = cursor.took('*') ? Selector.all() : Selector.named(cursor.name());
             if (only == null) {
                 return null;
             }
@@ -952,30 +950,19 @@ public final class PatchStore {
                 return Selector.all();
             }
             if (cursor.took('?')) {
-                Test test = test();
-                return test == null ? null : Selector.tested(test);
+                ArrayList<Selector> accesses = cursor.took('@') ? accesses() : null;
+                return accesses == null ? null : Selector.tested(testBehind(accesses));
             }
             if (cursor.isAtString()) {
-                return named(cursor.quoted());
+                return Selector.named(cursor.quoted());
             }
             int first = index();
             if (!cursor.took(':')) {
-                return indexed(first);
+                return Selector.indexed(first);
             }
             int second = index();
             int third = cursor.took(':') ? index() : Selector.LEFT_OUT;
-            if (first == BROKEN || second == BROKEN || third == BROKEN) {
-                return null;
-            }
             return Selector.slice(first, second, third);
-        }
-
-        private static Selector named(String name) {
-            return name == null ? null : Selector.named(name);
-        }
-
-        private static Selector indexed(int index) {
-            return index == Selector.LEFT_OUT || index == BROKEN ? null : Selector.indexed(index);
         }
 
         /** LEFT_OUT when none begins here, BROKEN when one begins and does not go on as it must. */
@@ -990,47 +977,56 @@ public final class PatchStore {
                 char digit = cursor.ahead();
                 cursor.took(digit);
                 if (sum == 0 && digit == '0') {
-                    return BROKEN;
+                    return Selector.BROKEN;
                 }
                 sum = sum * 10 + digit - '0';
             }
             if (sum == 0) {
-                return minus ? BROKEN : Selector.LEFT_OUT;
+                return minus ? Selector.BROKEN : Selector.LEFT_OUT;
             }
             return minus ? -sum : sum;
         }
 
-        private Test test() {
-            if (!cursor.took('@')) {
-                return null;
-            }
+        private ArrayList<Selector> accesses() {
             ArrayList<Selector> accesses = new ArrayList<>();
-            for (int i = 0; i < DRAFT_ROOM && (cursor.ahead() == '.' || cursor.ahead() == '['); i++) {
-                Selector access = access();
+            for (int i = 0; i < DRAFT_ROOM; i++) {
+                Selector access = null;
+                if (cursor.took('.')) {
+                    access = Selector.named(cursor.name());
+                } else if (cursor.took('[')) {
+                    cursor.skipBlanks();
+                    access = cursor.isAtString() ? Selector.named(cursor.quoted()) : Selector.indexed(index());
+                    cursor.skipBlanks();
+                    access = cursor.took(']') ? access : null;
+                } else {
+                    return accesses;
+                }
                 if (access == null) {
                     return null;
                 }
                 accesses.add(access);
             }
+            return null;
+        }
+
+        private Test testBehind(ArrayList<Selector> accesses) {
             cursor.skipBlanks();
             int sign = sign();
             if (sign == Test.NO_SIGN) {
                 return new Test(accesses, sign, null);
             }
-            cursor.skipBlanks();
-            Value literal = sign == BROKEN ? null : literal();
-            return literal == null ? null : new Test(accesses, sign, literal);
-        }
-
-        private Selector access() {
-            if (cursor.took('.')) {
-                return named(cursor.name());
+            if (sign == Test.BROKEN) {
+                return null;
             }
-            cursor.took('[');
             cursor.skipBlanks();
-            Selector access = cursor.isAtString() ? named(cursor.quoted()) : indexed(index());
-            cursor.skipBlanks();
-            return cursor.took(']') ? access : null;
+            Value literal = null;
+            if (cursor.isAtString()) {
+                String text = cursor.quoted();
+                literal = text == null ? null : new Value(Value.STRING, text, 0);
+            } else {
+                literal = cursor.isAtNumber() ? cursor.number() : cursor.word();
+            }
+            return literal == null ? null : new Test(accesses, sign, literal);
         }
 
         private int sign() {
@@ -1041,20 +1037,12 @@ public final class PatchStore {
                 return cursor.took('=') ? Test.NOT_LESS : Test.GREATER;
             }
             if (cursor.took('=')) {
-                return cursor.took('=') ? Test.EQUAL : BROKEN;
+                return cursor.took('=') ? Test.EQUAL : Test.BROKEN;
             }
             if (cursor.took('!')) {
-                return cursor.took('=') ? Test.NOT_EQUAL : BROKEN;
+                return cursor.took('=') ? Test.NOT_EQUAL : Test.BROKEN;
             }
             return Test.NO_SIGN;
-        }
-
-        private Value literal() {
-            if (cursor.isAtString()) {
-                String text = cursor.quoted();
-                return text == null ? null : new Value(Value.STRING, text, 0);
-            }
-            return cursor.isAtNumber() ? cursor.number() : cursor.word();
         }
     }
 
@@ -1101,8 +1089,9 @@ public final class PatchStore {
 
     /** A selector of a segment; those with a name or an index are the accesses of tests, too. */
     private static final class Selector {
-        /** Stands for an index of a slice; no index has more than three digits. */
+        /** These two stand for an index: no index has more than three digits. */
         static final int LEFT_OUT = 1000;
+        static final int BROKEN = 1001;
 
         private static final int ALL = 0;
         private static final int NAME = 1;
@@ -1130,20 +1119,25 @@ public final class PatchStore {
             return new Selector(ALL, "", 0, 0, 0, null);
         }
 
+        /** null when there is no name. */
         static Selector named(String name) {
-            return new Selector(NAME, name, 0, 0, 0, null);
+            return name == null ? null : new Selector(NAME, name, 0, 0, 0, null);
         }
 
+        /** null when there is no index. */
         static Selector indexed(int index) {
-            return new Selector(INDEX, "", index, 0, 0, null);
+            return index == LEFT_OUT || index == BROKEN ? null : new Selector(INDEX, "", index, 0, 0, null);
         }
 
+        /** null when an index is broken. */
         static Selector slice(int from, int to, int pace) {
-            return new Selector(SLICE, "", from, to, pace, null);
+            boolean broken = from == BROKEN || to == BROKEN || pace == BROKEN;
+            return broken ? null : new Selector(SLICE, "", from, to, pace, null);
         }
 
+        /** null when there is no test. */
         static Selector tested(Test test) {
-            return new Selector(TEST, "", 0, 0, 0, test);
+            return test == null ? null : new Selector(TEST, "", 0, 0, 0, test);
         }
 
         void choose(Value value, ArrayList<Value> list) {
@@ -1201,6 +1195,7 @@ public final class PatchStore {
 
     /** A test of a path: accesses and, unless it has no sign, what they lead to is compared with a literal. */
     private static final class Test {
+        static final int BROKEN = -1;
         static final int NO_SIGN = 0;
         static final int EQUAL = 1;
         static final int NOT_EQUAL = 2;

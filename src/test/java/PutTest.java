@@ -4,6 +4,7 @@ public final class PutTest {
         values();
         blanks();
         syntax();
+        longDrafts();
         deep();
         twice();
         full();
@@ -46,6 +47,20 @@ public final class PutTest {
             p.put(0, wrong, 1);
             p.text(0, null);
         }
+    }
+
+    /** Drafts that end where their room ends. */
+    private static void longDrafts() {
+        Probe p = new Probe("long drafts");
+        p.put(0, "[" + " ".repeat(159), 1);
+        p.put(0, "\"" + "a".repeat(159), 1);
+        p.put(0, "\"" + "a".repeat(158) + "\\", 1);
+        p.put(0, " ".repeat(159) + "-", 1);
+        p.put(0, " ".repeat(157) + "nul", 1);
+        p.put(0, "{\"" + "a".repeat(155) + "\" ", 1);
+        p.put(0, "1".repeat(160), 1);
+        p.put(0, " ".repeat(159) + "1", 0);
+        p.text(0, "1");
     }
 
     private static void deep() {

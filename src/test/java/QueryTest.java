@@ -255,6 +255,12 @@ public final class QueryTest {
             "$[?@=='a]", "$[?@==1==1]", "$[?1==@]", "$[?@.a b]", "$[?(@.a)]", "$(0)", "$.a[", "$.a]", "$.a$", "$.*a", "$.*.", "$~"}) {
             p.noPath(path);
         }
+        // These end where the room of the draft ends.
+        p.noPath("$[" + " ".repeat(158));
+        p.noPath("$[?@==" + " ".repeat(154));
+        p.noPath("$['" + "a".repeat(156) + "\\");
+        p.noPath("$" + ".a".repeat(79) + ".");
+        p.query("$." + "a".repeat(158), "");
     }
 
     private static void fullLists() {
@@ -275,6 +281,9 @@ public final class QueryTest {
         p.put(0, "[[[[[[[0,1,2,3,4,5]]]]]]]", 0);
         p.queryAnswers(0, "$..[*]", 12);
         p.queryAnswers(0, "$..[*]..*", -4);
+        p.put(0, "[[" + "0,".repeat(19) + "0]]", 0);
+        p.queryAnswers(0, "$..[*,0:18]", 40);
+        p.queryAnswers(0, "$..[*,0:19]", -4);
     }
 
     private static void answersBefore() {
