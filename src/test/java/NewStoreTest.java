@@ -26,8 +26,7 @@ public final class NewStoreTest {
         int[] arguments = {0, 1, 2, 3, 4, 5, 6, 7, 8, 15, -1, -8, Integer.MIN_VALUE, Integer.MAX_VALUE};
         int[] limits = {1, 2, 3, 4, 5, 6, 7, 8, 1, 8, 8, 1, 1, 8};
         for (int i = 0; i < arguments.length; i++) {
-            // The probe takes one off what it is given.
-            Probe p = new Probe("limit of " + arguments[i], arguments[i] + 1, 32);
+            Probe p = Probe.of("limit of " + arguments[i], arguments[i], 31);
             p.put(0, "[".repeat(limits[i]) + "]".repeat(limits[i]), 0);
             p.due("depth", p.store.depth(0), limits[i]);
             p.put(0, "[".repeat(limits[i] + 1) + "]".repeat(limits[i] + 1), 2);
@@ -38,7 +37,7 @@ public final class NewStoreTest {
         int[] arguments = {0, 1, 9, 30, 31, 32, 33, 63, -1, -32, Integer.MIN_VALUE, Integer.MAX_VALUE};
         int[] rooms = {1, 2, 10, 31, 32, 1, 2, 32, 32, 1, 1, 32};
         for (int i = 0; i < arguments.length; i++) {
-            Probe p = new Probe("room of " + arguments[i], 8, arguments[i] + 1);
+            Probe p = Probe.of("room of " + arguments[i], 7, arguments[i]);
             p.put(0, arrayOfCount(rooms[i]), 0);
             p.due("count", p.store.count(0), rooms[i]);
             p.put(0, arrayOfCount(rooms[i] + 1), 4);

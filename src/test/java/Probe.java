@@ -5,15 +5,33 @@ final class Probe {
     final PatchStore store;
     private final String label;
 
+    private Probe(String label, PatchStore store) {
+        this.label = label;
+        this.store = store;
+    }
+
     /** The limit and the room as the document means them: 1 .. 8 and 1 .. 32. */
     Probe(String label, int limit, int room) {
-        this.label = label;
-        this.store = new PatchStore(limit - 1, room - 1);
+        this(label, new PatchStore(limit - 1, room - 1));
+    }
+
+    /** A store made with just these arguments. */
+    static Probe of(String label, int first, int second) {
+        return new Probe(label, new PatchStore(first, second));
     }
 
     /** A store with the widest limits. */
     Probe(String label) {
         this(label, 8, 32);
+    }
+
+    /** Every character that a draft can have. */
+    static String everyCharacter() {
+        StringBuilder all = new StringBuilder();
+        for (char c = 32; c <= 126; c++) {
+            all.append(c);
+        }
+        return all.toString();
     }
 
     static long packed(String text) {
@@ -85,6 +103,51 @@ final class Probe {
     void reads(String draft, String due) {
         put(0, draft, 0);
         text(0, due);
+    }
+
+    /** A store of its own reads the draft, and its text is then the one that is due. */
+    static void read(String label, String draft, String due) {
+        new Probe(label).reads(draft, due);
+    }
+
+    /** A store of its own does not put the draft: what was there stays. */
+    static void unread(String label, String draft, int due) {
+        Probe p = new Probe(label);
+        p.put(0, "[7]", 0);
+        p.put(0, draft, due);
+        p.text(0, "[7]");
+    }
+
+    /** A store of its own does the patch on the document. */
+    static void patched(String label, String document, String patch, String due) {
+        Probe p = new Probe(label + ": " + document);
+        p.put(1, document, 0);
+        p.patch(1, patch, 0);
+        p.text(1, due);
+    }
+
+    /** A store of its own does nothing of the patch on the document, which is to be given as its text. */
+    static void unpatched(String label, String document, String patch, int due) {
+        Probe p = new Probe(label + ": " + document);
+        p.put(1, document, 0);
+        p.patch(1, patch, due);
+        p.text(1, document);
+    }
+
+    /** A store of its own, asked by the path: no object is used for more than 512 calls. */
+    static void asked(String label, String document, String path, String due) {
+        asking(label, document).query(0, path, due);
+    }
+
+    static void noPath(String label, String document, String path) {
+        asking(label, document).queryAnswers(0, path, -2);
+    }
+
+    /** A store of its own with the document to be asked. */
+    static Probe asking(String label, String document) {
+        Probe p = new Probe(label + ": " + document);
+        p.put(0, document, 0);
+        return p;
     }
 
     String shown() {

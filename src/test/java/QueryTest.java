@@ -27,17 +27,15 @@ public final class QueryTest {
         }
 
         private Probe probe() {
-            Probe p = new Probe("query of " + document);
-            p.put(0, document, 0);
-            return p;
+            return Probe.asking("query", document);
         }
 
         void query(String path, String due) {
-            probe().query(0, path, due);
+            Probe.asked("query", document, path, due);
         }
 
         void noPath(String path) {
-            probe().queryAnswers(0, path, -2);
+            Probe.noPath("query", document, path);
         }
     }
 
