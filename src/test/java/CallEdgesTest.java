@@ -1,6 +1,7 @@
 /** Promises 3 to 8, 10, 12 and 13, at their edges: numbers of documents, results and characters, and documents that are not there. */
 public final class CallEdgesTest {
-    private static final int[] NO_DOCUMENTS = {-1, 3, -2, -3, 4, 255, 256, 65536, Integer.MIN_VALUE, Integer.MIN_VALUE + 1, Integer.MAX_VALUE, Integer.MAX_VALUE - 1};
+    private static final int[] NO_DOCUMENTS = {-1, 3, -2, -3, 4, 255, 256, 65536, Integer.MIN_VALUE, Integer.MIN_VALUE + 1,
+        Integer.MAX_VALUE, Integer.MAX_VALUE - 1};
 
     public static void main(String[] args) {
         noSuchDocument();
@@ -43,7 +44,8 @@ public final class CallEdgesTest {
             Probe p = new Probe("when it is not there");
             p.put((d + 1) % 3, "[1,[2]]", 0);
             p.put((d + 2) % 3, "{}", 0);
-            for (String draft : new String[] {"[]", "[", "[[[[[[[[[[[", "[{\"a\":1,\"a\":1}]", "[1]", Op.remove("/0"), Op.add("", "1"), Op.test("", "1")}) {
+            for (String draft : new String[] {"[]", "[", "[[[[[[[[[[[", "[{\"a\":1,\"a\":1}]", "[1]", Op.remove("/0"), Op.add("", "1"),
+                Op.test("", "1")}) {
                 p.patch(d, draft, -1);
             }
             for (String draft : new String[] {"$", "$[", "", "$[*,*,*]"}) {

@@ -1,8 +1,9 @@
 /** What "Terms" says of the tests in paths, at their edges: each label is the sentence that would be broken. */
 public final class ComparisonEdgesTest {
     /** Values of every kind; in each kind they are in rising order, but for the words, which have none. */
-    private static final String[] VALUES = {"null", "true", "false", "-9223372036854775808", "-10", "-9", "-1", "0", "1", "9", "10", "9223372036854775807",
-        "\"\"", "\" \"", "\"0\"", "\"10\"", "\"9\"", "\"A\"", "\"Z\"", "\"a\"", "\"aA\"", "\"aa\"", "\"ab\"", "\"b\"", "\"~\"", "[]", "{}", "[1]", "{\"a\":1}"};
+    private static final String[] VALUES = {"null", "true", "false", "-9223372036854775808", "-10", "-9", "-1", "0", "1", "9", "10",
+        "9223372036854775807", "\"\"", "\" \"", "\"0\"", "\"10\"", "\"9\"", "\"A\"", "\"Z\"", "\"a\"", "\"aA\"", "\"aa\"", "\"ab\"",
+        "\"b\"", "\"~\"", "[]", "{}", "[1]", "{\"a\":1}"};
     private static final int FIRST_NUMBER = 3;
     private static final int FIRST_STRING = 12;
     private static final int FIRST_BRACKET = 25;
@@ -67,7 +68,8 @@ public final class ComparisonEdgesTest {
 
     private static void literals() {
         String label = "a LITERAL is null, true, false, a number, or a string (as in selectors)";
-        for (String literal : new String[] {"null", "true", "false", "0", "-7", "1000", "12345678901", "9223372036854775807", "-9223372036854775808", "\"\"", "\"a b\""}) {
+        for (String literal : new String[] {"null", "true", "false", "0", "-7", "1000", "12345678901", "9223372036854775807",
+            "-9223372036854775808", "\"\"", "\"a b\""}) {
             Probe.asked(label, "[" + literal + "]", "$[?@==" + literal + "]", literal);
             Probe.asked(label, "[[" + literal + "]]", "$[?@[0]==" + literal + "]", "[" + literal + "]");
         }
@@ -78,9 +80,10 @@ public final class ComparisonEdgesTest {
     }
 
     private static void whatIsNoLiteral() {
-        for (String wrong : new String[] {"", " ", "nul", "nulll", "Null", "TRUE", "tru", "truefalse", "fals", "n", "t", "f", "none", "00", "01", "-", "--1", "+1", "- 1", "-01", "-00",
-            "1.0", "1e1", "9223372036854775808", "-9223372036854775809", "18446744073709551617", "99999999999999999999", "[]", "{}", "[1]", "@", "@.a", "$", "$.a", "a", "*", "?@",
-            "'a", "a'", "'a\"", "\"a'", "'a'b", "1 2", "1 'a'", "1=1", "1==1", ":", "1:", "(1)", "'\\\"'", "\"\\'\"", "'\\n'", "1&&@", "1||@"}) {
+        for (String wrong : new String[] {"", " ", "nul", "nulll", "Null", "TRUE", "tru", "truefalse", "fals", "n", "t", "f", "none", "00",
+            "01", "-", "--1", "+1", "- 1", "-01", "-00", "1.0", "1e1", "9223372036854775808", "-9223372036854775809",
+            "18446744073709551617", "99999999999999999999", "[]", "{}", "[1]", "@", "@.a", "$", "$.a", "a", "*", "?@", "'a", "a'", "'a\"",
+            "\"a'", "'a'b", "1 2", "1 'a'", "1=1", "1==1", ":", "1:", "(1)", "'\\\"'", "\"\\'\"", "'\\n'", "1&&@", "1||@"}) {
             for (String sign : SIGNS) {
                 Probe.noPath("no LITERAL", "[1]", "$[?@" + sign + wrong + "]");
             }
@@ -95,7 +98,8 @@ public final class ComparisonEdgesTest {
                 Probe.asking(label, "[7]").queryAnswers(0, "$[?@" + blanks + sign + blanks + "7]", due);
             }
         }
-        for (String wrong : new String[] {"=", "!", "===", "!==", "=!", "=<", "=>", "<<", ">>", "<>", "><", "<==", ">==", "= =", "! =", "< =", "> =", "~", "=~", "&", "-", "+", ":", "."}) {
+        for (String wrong : new String[] {"=", "!", "===", "!==", "=!", "=<", "=>", "<<", ">>", "<>", "><", "<==", ">==", "= =", "! =",
+            "< =", "> =", "~", "=~", "&", "-", "+", ":", "."}) {
             Probe.noPath(label, "[7]", "$[?@" + wrong + "7]");
             Probe.noPath(label, "[7]", "$[?@" + wrong + "]");
         }
@@ -140,8 +144,9 @@ public final class ComparisonEdgesTest {
     }
 
     private static void accessesThatAreNone() {
-        for (String wrong : new String[] {"", "1", "a", ".a", "$", "$.a", "@@", "@a", "@.", "@..a", "@.*", "@.1", "@.a.", "@[*]", "@[]", "@[", "@[0", "@[0,1]", "@['a','b']", "@[:]",
-            "@[0:1]", "@[?@]", "@[a]", "@[01]", "@[-0]", "@[1000]", "@['a]", "@'a'", "@(0)", "@.a b", "!@", "(@)", "@.a@", "@]0[", "@[[0]]", "@['a'][", "@.a[0]b", "@.-", "@[\"\\'\"]"}) {
+        for (String wrong : new String[] {"", "1", "a", ".a", "$", "$.a", "@@", "@a", "@.", "@..a", "@.*", "@.1", "@.a.", "@[*]", "@[]",
+            "@[", "@[0", "@[0,1]", "@['a','b']", "@[:]", "@[0:1]", "@[?@]", "@[a]", "@[01]", "@[-0]", "@[1000]", "@['a]", "@'a'", "@(0)",
+            "@.a b", "!@", "(@)", "@.a@", "@]0[", "@[[0]]", "@['a'][", "@.a[0]b", "@.-", "@[\"\\'\"]"}) {
             Probe.noPath("a TEST is @ and perhaps ACCESSES (. NAME, or [ a string or an index ])", "[[7]]", "$[?" + wrong + "]");
             Probe.noPath("a TEST is @ and perhaps ACCESSES (. NAME, or [ a string or an index ])", "[[7]]", "$[?" + wrong + "==7]");
         }

@@ -27,8 +27,8 @@ public final class CrashEdgesTest {
 
     private static void resultsStayWhenDocumentsChange() {
         String due = "{\"a\":[1,{\"b\":2}],\"c\":3} | [1,{\"b\":2}] | 3 | 1 | {\"b\":2} | 2";
-        String[] patches = {Op.add("/0/a/0", "7"), Op.remove("/0/c"), Op.replace("/0/a/1/b", "[8]"), Op.move("/0/a", "/0/d"), Op.copy("/0/a", "/0/a/-"),
-            Op.add("", "9"), Op.replace("/0/a/0", "{}")};
+        String[] patches = {Op.add("/0/a/0", "7"), Op.remove("/0/c"), Op.replace("/0/a/1/b", "[8]"), Op.move("/0/a", "/0/d"),
+            Op.copy("/0/a", "/0/a/-"), Op.add("", "9"), Op.replace("/0/a/0", "{}")};
         for (String patch : patches) {
             Probe p = new Probe("results stay as they were when documents change");
             p.put(0, "[{\"a\":[1,{\"b\":2}],\"c\":3}]", 0);
@@ -90,7 +90,8 @@ public final class CrashEdgesTest {
     }
 
     private static void crashAfterLaterChanges() {
-        String[] changes = {Op.add("/a/0", "7"), Op.remove("/a/0"), Op.replace("/a", "7"), Op.move("/a", "/c"), Op.copy("/a", "/a/0"), Op.add("", "7")};
+        String[] changes = {Op.add("/a/0", "7"), Op.remove("/a/0"), Op.replace("/a", "7"), Op.move("/a", "/c"), Op.copy("/a", "/a/0"),
+            Op.add("", "7")};
         for (String change : changes) {
             Probe p = new Probe("the documents are as at the latest commit");
             p.put(0, "{\"a\":[1,2],\"b\":{}}", 0);

@@ -1,8 +1,9 @@
 /** What "Terms" says of documents, at its edges: LIMIT and ROOM, exactly and one beyond. */
 public final class DocumentEdgesTest {
-    private static final int[] ARGUMENTS = {Integer.MIN_VALUE, Integer.MIN_VALUE + 1, Integer.MIN_VALUE + 31, -1000, -256, -65, -64, -63, -34, -33, -32,
-        -31, -30, -17, -16, -15, -9, -8, -7, -6, -5, -4, -3, -2, -1, 0, 1, 2, 3, 4, 5, 6, 7, 8, 9, 10, 15, 16, 17, 24, 30, 31, 32, 33, 39, 40, 62, 63, 64,
-        65, 255, 256, 1 << 16, Integer.MAX_VALUE - 31, Integer.MAX_VALUE - 8, Integer.MAX_VALUE - 7, Integer.MAX_VALUE - 1, Integer.MAX_VALUE};
+    private static final int[] ARGUMENTS = {Integer.MIN_VALUE, Integer.MIN_VALUE + 1, Integer.MIN_VALUE + 31, -1000, -256, -65, -64, -63,
+        -34, -33, -32, -31, -30, -17, -16, -15, -9, -8, -7, -6, -5, -4, -3, -2, -1, 0, 1, 2, 3, 4, 5, 6, 7, 8, 9, 10, 15, 16, 17, 24, 30,
+        31, 32, 33, 39, 40, 62, 63, 64, 65, 255, 256, 1 << 16, Integer.MAX_VALUE - 31, Integer.MAX_VALUE - 8, Integer.MAX_VALUE - 7,
+        Integer.MAX_VALUE - 1, Integer.MAX_VALUE};
 
     public static void main(String[] args) {
         notThereAtFirst();

@@ -104,8 +104,8 @@ public final class DraftEdgesTest {
     }
 
     private static void takenWhateverPatchAnswers() {
-        String[] drafts = {"[]", "", "x", "[", "[[[[[", "[{\"a\":1,\"a\":1}]", Op.add("/-", "8"), "[1]", Op.remove("/8"), Op.test("/0", "1"),
-            Op.copy("", "/-"), Op.replace("/7", "[[]]")};
+        String[] drafts = {"[]", "", "x", "[", "[[[[[", "[{\"a\":1,\"a\":1}]", Op.add("/-", "8"), "[1]", Op.remove("/8"),
+            Op.test("/0", "1"), Op.copy("", "/-"), Op.replace("/7", "[[]]")};
         int[] answers = {0, 1, 1, 1, 2, 3, 4, 5, 6, 7, 4, 2};
         for (int i = 0; i < drafts.length; i++) {
             Probe p = small();
@@ -255,18 +255,19 @@ public final class DraftEdgesTest {
     private static void numberThatIsTooGreat() {
         String label = "at the end of a number that is too great: SYNTAX";
         String great = "9223372036854775808";
-        for (String draft : new String[] {great, great + " ", great + "0", great + "x", "[" + great, "[" + great + "]", "[1," + great + ",[[[[[[[[[",
-            "{\"a\":" + great + ",\"a\":1}", "{\"a\":1,\"b\":" + great + ",\"a\":1}", "-9223372036854775809", "[-9223372036854775809,[[[[[[[[["}) {
+        for (String draft : new String[] {great, great + " ", great + "0", great + "x", "[" + great, "[" + great + "]",
+            "[1," + great + ",[[[[[[[[[", "{\"a\":" + great + ",\"a\":1}", "{\"a\":1,\"b\":" + great + ",\"a\":1}", "-9223372036854775809",
+            "[-9223372036854775809,[[[[[[[[["}) {
             Probe.unread(label, draft, 1);
             Probe.unpatched(label, "[7]", draft, 1);
         }
     }
 
     private static void whatStopsFirst() {
-        String[] drafts = {"[[[x", "[x[[[", "[[1,x],[[[", "[[1[", "[[],x", "[[]x[[[", "{\"a\":1,\"a\":[[[", "{\"a\":1,\"a\"[[[", "{\"a\":[[[],\"a\":1",
-            "{\"a\":[[[", "{\"a\":[],\"a\":[[[", "{\"a\":x,\"a\":1}", "{\"a\":1 \"a\":1}", "{\"a\":1,x\"a\"", "{[[[", "{\"a\"[[[", "{\"a\":1[[[",
-            "{\"a\":1,\"b\":{\"c\":{", "{\"a\":1,\"b\":{\"c\":1,\"c\"", "[9999999999999999999,[[[", "[[[9999999999999999999", "{\"a\":1,\"a\":9999999999999999999",
-            "[] [[[", "[]{\"a\":1,\"a\"", "1[[["};
+        String[] drafts = {"[[[x", "[x[[[", "[[1,x],[[[", "[[1[", "[[],x", "[[]x[[[", "{\"a\":1,\"a\":[[[", "{\"a\":1,\"a\"[[[",
+            "{\"a\":[[[],\"a\":1", "{\"a\":[[[", "{\"a\":[],\"a\":[[[", "{\"a\":x,\"a\":1}", "{\"a\":1 \"a\":1}", "{\"a\":1,x\"a\"", "{[[[",
+            "{\"a\"[[[", "{\"a\":1[[[", "{\"a\":1,\"b\":{\"c\":{", "{\"a\":1,\"b\":{\"c\":1,\"c\"", "[9999999999999999999,[[[",
+            "[[[9999999999999999999", "{\"a\":1,\"a\":9999999999999999999", "[] [[[", "[]{\"a\":1,\"a\"", "1[[["};
         int[] answers = {2, 1, 1, 1, 1, 1, 3, 3, 2, 2, 3, 1, 1, 1, 1, 1, 1, 2, 3, 1, 2, 3, 1, 1, 1};
         for (int i = 0; i < drafts.length; i++) {
             Probe p = new Probe("SYNTAX, DEEP and TWICE, where the reading stops first", 2, 32);

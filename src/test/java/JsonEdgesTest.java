@@ -50,8 +50,8 @@ public final class JsonEdgesTest {
         for (String number : new String[] {"0", "1", "9", "10", "90", "100", "-1", "-9", "-10", "1001"}) {
             Probe.read(label, number, number);
         }
-        for (String number : new String[] {"00", "01", "09", "001", "-00", "-01", "-09", "-", "--0", "--1", "-a", "+0", "+1", "0-", "1-", "1-1",
-            "0x1", "1.0", "1e1", ".1", "1.", "1,"}) {
+        for (String number : new String[] {"00", "01", "09", "001", "-00", "-01", "-09", "-", "--0", "--1", "-a", "+0", "+1", "0-", "1-",
+            "1-1", "0x1", "1.0", "1e1", ".1", "1.", "1,"}) {
             Probe.unread(label, number, 1);
             Probe.unread(label, "[" + number + "]", 1);
         }
@@ -108,15 +108,16 @@ public final class JsonEdgesTest {
             Probe.read("a value that is empty", "{\"\":" + empty + "}", "{\"\":" + empty + "}");
             Probe.patched("a value that is empty", "[1]", Op.replace("/0", empty), "[" + empty + "]");
         }
-        for (String wrong : new String[] {"[,]", "{,}", "[,1]", "[1,]", "[1,,1]", "{\"a\":1,}", "{,\"a\":1}", "{:}", "{\"a\"}", "{\"a\":}", "{:1}"}) {
+        for (String wrong : new String[] {"[,]", "{,}", "[,1]", "[1,]", "[1,,1]", "{\"a\":1,}", "{,\"a\":1}", "{:}", "{\"a\"}", "{\"a\":}",
+            "{:1}"}) {
             Probe.unread("commas stand between", wrong, 1);
         }
     }
 
     private static void blanksWhereTheyMayStand() {
         String label = "blanks may stand before and behind values, names, brackets, commas and colons";
-        String[] pieces = {"{", "\"a\"", ":", "[", "1", ",", "-2", ",", "\"x\"", ",", "true", "]", ",", "\"b\"", ":", "{", "}", ",", "\"\"", ":",
-            "[", "]", ",", "\"c\"", ":", "null", "}"};
+        String[] pieces = {"{", "\"a\"", ":", "[", "1", ",", "-2", ",", "\"x\"", ",", "true", "]", ",", "\"b\"", ":", "{", "}", ",", "\"\"",
+            ":", "[", "]", ",", "\"c\"", ":", "null", "}"};
         String due = String.join("", pieces);
         for (int gap = 0; gap <= pieces.length; gap++) {
             StringBuilder draft = new StringBuilder();
@@ -134,8 +135,9 @@ public final class JsonEdgesTest {
 
     private static void blanksWhereTheyMayNot() {
         String label = "no other place is named for blanks";
-        for (String wrong : new String[] {"", " ", " ".repeat(160), "n ull", "nul l", "t rue", "tru e", "f alse", "fals e", "- 1", "- 0", "1 0", "-1 0",
-            "1 2", "[1 2]", "[null null]", "[[] []]", "{\"a\" \"b\":1}", "{\"a\":1 \"b\":2}", "\"\\ \"", "\"\\ \"\"", "\"a\" \"b\""}) {
+        for (String wrong : new String[] {"", " ", " ".repeat(160), "n ull", "nul l", "t rue", "tru e", "f alse", "fals e", "- 1", "- 0",
+            "1 0", "-1 0", "1 2", "[1 2]", "[null null]", "[[] []]", "{\"a\" \"b\":1}", "{\"a\":1 \"b\":2}", "\"\\ \"", "\"\\ \"\"",
+            "\"a\" \"b\""}) {
             Probe.unread(label, wrong, 1);
         }
         Probe.read("blanks in strings are characters", " \" a  b \" ", "\" a  b \"");
@@ -144,12 +146,13 @@ public final class JsonEdgesTest {
 
     private static void namesThatStandTwice() {
         String label = "no name may stand twice in one object";
-        for (String twice : new String[] {"{\"a\":1,\"a\":1}", "{\"\":1,\"\":2}", "{\"a\":1,\"b\":2,\"a\":3}", "{\"a\":1,\"b\":2,\"b\":3}", "{\"/\":1,\"\\/\":2}",
-            "[{\"a\":1,\"a\":2}]", "{\"x\":{\"a\":1,\"a\":2}}", "{\"a\":{\"a\":1},\"a\":2}", "{\"a\":[],\"a\":{}}"}) {
+        for (String twice : new String[] {"{\"a\":1,\"a\":1}", "{\"\":1,\"\":2}", "{\"a\":1,\"b\":2,\"a\":3}", "{\"a\":1,\"b\":2,\"b\":3}",
+            "{\"/\":1,\"\\/\":2}", "[{\"a\":1,\"a\":2}]", "{\"x\":{\"a\":1,\"a\":2}}", "{\"a\":{\"a\":1},\"a\":2}",
+            "{\"a\":[],\"a\":{}}"}) {
             Probe.unread(label, twice, 3);
         }
-        for (String once : new String[] {"{\"a\":{\"a\":{\"a\":1}}}", "[{\"a\":1},{\"a\":1}]", "{\"a\":1,\"A\":2,\" a\":3,\"a \":4,\"aa\":5,\"\":6}",
-            "{\"a\":{\"b\":1},\"b\":{\"a\":2}}", "{\"x\":\"a\",\"a\":\"x\"}"}) {
+        for (String once : new String[] {"{\"a\":{\"a\":{\"a\":1}}}", "[{\"a\":1},{\"a\":1}]",
+            "{\"a\":1,\"A\":2,\" a\":3,\"a \":4,\"aa\":5,\"\":6}", "{\"a\":{\"b\":1},\"b\":{\"a\":2}}", "{\"x\":\"a\",\"a\":\"x\"}"}) {
             Probe.read(label, once, once);
         }
     }
@@ -158,7 +161,8 @@ public final class JsonEdgesTest {
         depth("0 for null, true, false, numbers and strings", 0, "null", "true", "false", "0", "-1", "\"\"", "\"[[]]\"");
         depth("1 when it is empty", 1, "[]", "{}");
         depth("one more than that of the deepest one in it", 1, "[0]", "[0,1,2]", "{\"a\":\"\"}");
-        depth("one more than that of the deepest one in it", 2, "[[]]", "[{}]", "{\"a\":[]}", "[[],1]", "[1,[]]", "{\"a\":{},\"b\":0}", "[[],[],[]]");
+        depth("one more than that of the deepest one in it", 2, "[[]]", "[{}]", "{\"a\":[]}", "[[],1]", "[1,[]]", "{\"a\":{},\"b\":0}",
+            "[[],[],[]]");
         depth("one more than that of the deepest one in it", 3, "[[[]],[]]", "[[],[[]],[]]", "{\"a\":1,\"b\":[{}]}", "[[[0]]]");
         depth("one more than that of the deepest one in it", 8, "[[[[[[[[]]]]]]]]", "[0,[[[[[[[0]]]]]],[]]]");
     }
@@ -189,7 +193,8 @@ public final class JsonEdgesTest {
 
     private static void keptOrder() {
         String label = "members and elements keep their order";
-        for (String same : new String[] {"[3,1,2]", "{\"c\":1,\"a\":2,\"b\":3}", "{\"b\":{\"z\":[2,1],\"y\":0},\"a\":null}", "{\"2\":0,\"10\":0,\"1\":0}"}) {
+        for (String same : new String[] {"[3,1,2]", "{\"c\":1,\"a\":2,\"b\":3}", "{\"b\":{\"z\":[2,1],\"y\":0},\"a\":null}",
+            "{\"2\":0,\"10\":0,\"1\":0}"}) {
             Probe.read(label, same, same);
         }
         Probe.asked(label, "{\"c\":1,\"a\":2,\"b\":3}", "$.*", "1 | 2 | 3");
@@ -201,20 +206,23 @@ public final class JsonEdgesTest {
             "{\"b\":[],\"c\":{},\"a\":1}", "{\"c\":{},\"a\":1,\"b\":[]}", "{\"c\":{},\"b\":[],\"a\":1}"}) {
             Probe.patched(label, "{\"a\":1,\"b\":[],\"c\":{}}", Op.test("", other), "{\"a\":1,\"b\":[],\"c\":{}}");
         }
-        Probe.patched(label, "[{\"x\":{\"a\":1,\"b\":2},\"y\":0}]", Op.test("", "[{\"y\":0,\"x\":{\"b\":2,\"a\":1}}]"), "[{\"x\":{\"a\":1,\"b\":2},\"y\":0}]");
-        for (String same : new String[] {"null", "true", "false", "0", "-9223372036854775808", "\"\"", "\"\\\"\\\\\"", "[]", "{}", "[[],{}]", "{\"\":\"\"}"}) {
+        Probe.patched(label, "[{\"x\":{\"a\":1,\"b\":2},\"y\":0}]", Op.test("", "[{\"y\":0,\"x\":{\"b\":2,\"a\":1}}]"),
+            "[{\"x\":{\"a\":1,\"b\":2},\"y\":0}]");
+        for (String same : new String[] {"null", "true", "false", "0", "-9223372036854775808", "\"\"", "\"\\\"\\\\\"", "[]", "{}",
+            "[[],{}]", "{\"\":\"\"}"}) {
             Probe.patched(label, same, Op.test("", same), same);
         }
     }
 
     private static void unequalValues() {
         String label = "values that are not the same are not EQUAL";
-        String[][] pairs = {{"[1,2]", "[2,1]"}, {"[1]", "[1,1]"}, {"[1,1]", "[1]"}, {"[]", "[[]]"}, {"[]", "{}"}, {"[]", "null"}, {"{}", "null"},
-            {"\"\"", "null"}, {"\"\"", "[]"}, {"0", "false"}, {"0", "\"0\""}, {"0", "\"\""}, {"1", "true"}, {"1", "[1]"}, {"1", "-1"}, {"null", "false"},
-            {"null", "\"null\""}, {"true", "\"true\""}, {"true", "false"}, {"\"a\"", "\"A\""}, {"\"a\"", "\"a \""}, {"\"a\"", "\"\""},
-            {"9223372036854775807", "9223372036854775806"}, {"9223372036854775807", "-9223372036854775808"}, {"[1]", "{\"0\":1}"},
-            {"{\"a\":1,\"b\":2}", "{\"a\":2,\"b\":1}"}, {"{\"a\":1,\"b\":2}", "{\"a\":1}"}, {"{\"a\":1}", "{\"a\":1,\"b\":2}"}, {"{\"a\":1}", "{\"A\":1}"},
-            {"{\"a\":1}", "{\"b\":1}"}, {"{\"a\":[1,2]}", "{\"a\":[2,1]}"}, {"{\"a\":{}}", "{\"a\":[]}"}, {"[[1],[2]]", "[[2],[1]]"}, {"[[1,2]]", "[[1],2]"}};
+        String[][] pairs = {{"[1,2]", "[2,1]"}, {"[1]", "[1,1]"}, {"[1,1]", "[1]"}, {"[]", "[[]]"}, {"[]", "{}"}, {"[]", "null"},
+            {"{}", "null"}, {"\"\"", "null"}, {"\"\"", "[]"}, {"0", "false"}, {"0", "\"0\""}, {"0", "\"\""}, {"1", "true"}, {"1", "[1]"},
+            {"1", "-1"}, {"null", "false"}, {"null", "\"null\""}, {"true", "\"true\""}, {"true", "false"}, {"\"a\"", "\"A\""},
+            {"\"a\"", "\"a \""}, {"\"a\"", "\"\""}, {"9223372036854775807", "9223372036854775806"},
+            {"9223372036854775807", "-9223372036854775808"}, {"[1]", "{\"0\":1}"}, {"{\"a\":1,\"b\":2}", "{\"a\":2,\"b\":1}"},
+            {"{\"a\":1,\"b\":2}", "{\"a\":1}"}, {"{\"a\":1}", "{\"a\":1,\"b\":2}"}, {"{\"a\":1}", "{\"A\":1}"}, {"{\"a\":1}", "{\"b\":1}"},
+            {"{\"a\":[1,2]}", "{\"a\":[2,1]}"}, {"{\"a\":{}}", "{\"a\":[]}"}, {"[[1],[2]]", "[[2],[1]]"}, {"[[1,2]]", "[[1],2]"}};
         for (String[] pair : pairs) {
             Probe.unpatched(label, pair[0], Op.test("", pair[1]), 7);
             Probe.unpatched(label, pair[1], Op.test("", pair[0]), 7);

@@ -30,8 +30,9 @@ public final class PatchEdgesTest {
 
     private static void arrayOfObjects() {
         String label = "a PATCH is an array of objects; what can be read, but is no patch, is UNFIT";
-        for (String patch : new String[] {"null", "true", "0", "\"\"", "\"[]\"", "{}", "{\"op\":\"remove\",\"path\":\"/a\"}", "[null]", "[0]", "[\"remove\"]", "[[]]",
-            "[[{\"op\":\"remove\",\"path\":\"/a\"}]]", "[{}]", "[{\"op\":\"remove\",\"path\":\"/a\"},[]]", "[{\"op\":\"remove\",\"path\":\"/a\"},null]"}) {
+        for (String patch : new String[] {"null", "true", "0", "\"\"", "\"[]\"", "{}", "{\"op\":\"remove\",\"path\":\"/a\"}", "[null]",
+            "[0]", "[\"remove\"]", "[[]]", "[[{\"op\":\"remove\",\"path\":\"/a\"}]]", "[{}]", "[{\"op\":\"remove\",\"path\":\"/a\"},[]]",
+            "[{\"op\":\"remove\",\"path\":\"/a\"},null]"}) {
             Probe.unpatched(label, "{\"a\":1}", patch, 5);
         }
     }
@@ -43,8 +44,9 @@ public final class PatchEdgesTest {
             Probe.patched(label, "{\"a\":1}", "[{\"op\":" + op + rest, "{\"a\":1}");
         }
         Probe.patched(label, "{\"a\":1}", "[{\"op\":\"remove\"" + rest, "{}");
-        for (String op : new String[] {"\"\"", "\"Add\"", "\"ADD\"", "\"ad\"", "\"adds\"", "\" add\"", "\"add \"", "\"removed\"", "\"replac\"", "\"moves\"", "\"cop\"",
-            "\"tests\"", "\"delete\"", "null", "true", "0", "[]", "{}", "[\"add\"]", "{\"op\":\"add\"}"}) {
+        for (String op : new String[] {"\"\"", "\"Add\"", "\"ADD\"", "\"ad\"", "\"adds\"", "\" add\"", "\"add \"", "\"removed\"",
+            "\"replac\"", "\"moves\"", "\"cop\"", "\"tests\"", "\"delete\"", "null", "true", "0", "[]", "{}", "[\"add\"]",
+            "{\"op\":\"add\"}"}) {
             Probe.unpatched(label, "{\"a\":1}", "[{\"op\":" + op + rest, 5);
         }
         Probe.unpatched(label, "{\"a\":1}", "[{\"OP\":\"add\"" + rest, 5);
@@ -376,7 +378,8 @@ public final class PatchEdgesTest {
 
     private static void nothingOfAllThePatch() {
         String[] changes = {Op.add("", "7"), Op.remove("/0"), Op.replace("/1", "[]"), Op.move("/1", "/0"), Op.move("/1", "/0/0")};
-        String[] faults = {Op.remove("/9"), Op.test("", "9"), Op.replace("", "[[],[],[],[]]"), "[{\"op\":\"copy\",\"from\":\"/9\",\"path\":\"\"}]"};
+        String[] faults = {Op.remove("/9"), Op.test("", "9"), Op.replace("", "[[],[],[],[]]"),
+            "[{\"op\":\"copy\",\"from\":\"/9\",\"path\":\"\"}]"};
         int[] answers = {6, 7, 4, 6};
         for (String change : changes) {
             for (int i = 0; i < faults.length; i++) {

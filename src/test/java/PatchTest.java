@@ -175,11 +175,13 @@ public final class PatchTest {
     }
 
     private static void test() {
-        for (String value : new String[] {"null", "true", "false", "0", "-7", "\"\"", "\"a\"", "[]", "{}", "[1,[2]]", "{\"a\":{\"b\":1}}"}) {
+        for (String value : new String[] {"null", "true", "false", "0", "-7", "\"\"", "\"a\"", "[]", "{}", "[1,[2]]",
+            "{\"a\":{\"b\":1}}"}) {
             done(value, Op.test("", value), value);
             refused("[" + value + "]", Op.test("/0", "\"other\""), 7);
         }
-        done("{\"a\":1,\"b\":[{\"c\":2,\"d\":3}]}", Op.test("", "{\"b\":[{\"d\":3,\"c\":2}],\"a\":1}"), "{\"a\":1,\"b\":[{\"c\":2,\"d\":3}]}");
+        done("{\"a\":1,\"b\":[{\"c\":2,\"d\":3}]}", Op.test("", "{\"b\":[{\"d\":3,\"c\":2}],\"a\":1}"),
+            "{\"a\":1,\"b\":[{\"c\":2,\"d\":3}]}");
         done("[0]", Op.test("/0", "-0"), "[0]");
         done("[\"/\"]", Op.test("/0", "\"\\/\""), "[\"/\"]");
         refused("[1,2]", Op.test("", "[2,1]"), 7);

@@ -132,8 +132,8 @@ public final class PointerEdgesTest {
 
     private static void numbersThatAreNone() {
         String label = "0, or digits of which the first is not 0, at most 3";
-        for (String step : new String[] {"00", "01", "010", "000", "0001", "-0", "-1", "-", "+1", " 1", "1 ", "1a", "a1", "a", "1.0", "1e0", "0x1", ":", "100",
-            "999", "1000", "9999", "256", "65536", "4294967296", "4294967297", "18446744073709551616"}) {
+        for (String step : new String[] {"00", "01", "010", "000", "0001", "-0", "-1", "-", "+1", " 1", "1 ", "1a", "a1", "a", "1.0", "1e0",
+            "0x1", ":", "100", "999", "1000", "9999", "256", "65536", "4294967296", "4294967297", "18446744073709551616"}) {
             lost(label, ELEVEN, "/" + step);
             if (!step.equals("-")) {
                 Probe.unpatched(label, ELEVEN, Op.add("/" + step, "7"), 6);
