@@ -10,6 +10,7 @@ public final class PatchStore {
     private static final int LIST_ROOM = 40;
     private static final int FIRST_CODE = 32;
     private static final int LAST_CODE = 126;
+    private static final long LEAST_NUMBER = 1L << 63;
 
     private static final int NONE = -1;
     private static final int DONE = 0;
@@ -27,6 +28,8 @@ public final class PatchStore {
     private final int room;
     private final char[] draftLetters = new char[DRAFT_ROOM];
     private int draftLength = 0;
+    /** Strings are put together here, one at a time, so that no call makes a builder of its own. */
+    private final StringBuilder builder = new StringBuilder();
     private final Value[] documents = new Value[DOCUMENTS];
     private final Value[] committed = new Value[DOCUMENTS];
     private ArrayList<Value> found = new ArrayList<>();
@@ -83,7 +86,7 @@ public final class PatchStore {
         if (value == null) {
             return reader.fault;
         }
-        ArrayList<Operation> operations = Operation.allOf(value);
+        ArrayList<Operation> operations = Operation.allOf(value, builder);
         if (operations == null) {
             return UNFIT;
         }
@@ -184,7 +187,7 @@ public final class PatchStore {
 
     /** The cursor reads the letters in place: nothing is written before the call that took them ends. */
     private Cursor takeDraft() {
-        Cursor text = new Cursor(draftLetters, draftLength);
+        Cursor text = new Cursor(draftLetters, draftLength, builder);
         draftLength = 0;
         return text;
     }
@@ -404,11 +407,12 @@ public final class PatchStore {
         private final char[] letters;
         private final int end;
         private int at = 0;
-        private final StringBuilder builder = new StringBuilder();
+        private final StringBuilder builder;
 
-        Cursor(char[] letters, int end) {
+        Cursor(char[] letters, int end, StringBuilder builder) {
             this.letters = letters;
             this.end = end;
+            this.builder = builder;
         }
 
         char ahead() {
@@ -496,7 +500,7 @@ public final class PatchStore {
             int digits = 0;
             while (at < end && isDigit(letters[at])) {
                 int digit = letters[at] - '0';
-                if (sum < Long.MIN_VALUE / 10 || sum * 10 < Long.MIN_VALUE + digit) {
+                if (sum < LEAST_NUMBER / 10 || sum * 10 < LEAST_NUMBER + digit) {
                     return null;
                 }
                 sum = sum * 10 - digit;
@@ -504,7 +508,7 @@ public final class PatchStore {
                 digits++;
                 at++;
             }
-            if (digits == 0 || !minus && sum == Long.MIN_VALUE) {
+            if (digits == 0 || !minus && sum == LEAST_NUMBER) {
                 return null;
             }
             return new Value(Value.NUMBER, builder.toString(), minus ? sum : -sum);
@@ -607,7 +611,7 @@ public final class PatchStore {
         }
 
         /** null when the value is no pointer. */
-        static Pointer of(Value value) {
+        static Pointer of(Value value, StringBuilder builder) {
             if (value == null || value.kind != Value.STRING) {
                 return null;
             }
@@ -616,7 +620,7 @@ public final class PatchStore {
             int end = text.length();
             for (int i = end - 1; i >= 0; i--) {
                 if (text.charAt(i) == '/') {
-                    String step = decoded(text.substring(i + 1, end));
+                    String step = decoded(text.substring(i + 1, end), builder);
                     if (step == null) {
                         return null;
                     }
@@ -627,11 +631,11 @@ public final class PatchStore {
             return end == 0 ? pointer : null;
         }
 
-        private static String decoded(String step) {
+        private static String decoded(String step, StringBuilder builder) {
             if (step.indexOf('~') < 0) {
                 return step;
             }
-            StringBuilder builder = new StringBuilder();
+            builder.setLength(0);
             for (int i = 0; i < step.length(); i++) {
                 char c = step.charAt(i);
                 if (c == '~') {
@@ -724,13 +728,13 @@ public final class PatchStore {
         }
 
         /** null when the value is no patch. */
-        static ArrayList<Operation> allOf(Value patch) {
+        static ArrayList<Operation> allOf(Value patch, StringBuilder builder) {
             if (patch.kind != Value.ARRAY) {
                 return null;
             }
             ArrayList<Operation> operations = new ArrayList<>();
             for (int i = 0; i < patch.parts.size(); i++) {
-                Operation operation = of(patch.parts.get(i));
+                Operation operation = of(patch.parts.get(i), builder);
                 if (operation == null) {
                     return null;
                 }
@@ -739,14 +743,14 @@ public final class PatchStore {
             return operations;
         }
 
-        private static Operation of(Value part) {
+        private static Operation of(Value part, StringBuilder builder) {
             int kind = kindOf(part.member("op"));
-            Pointer path = Pointer.of(part.member("path"));
+            Pointer path = Pointer.of(part.member("path"), builder);
             if (kind == NONE || path == null) {
                 return null;
             }
             if (kind == MOVE || kind == COPY) {
-                Pointer from = Pointer.of(part.member("from"));
+                Pointer from = Pointer.of(part.member("from"), builder);
                 return from == null ? null : new Operation(kind, path, from, null);
             }
             if (kind == REMOVE) {

@@ -4,6 +4,8 @@ public final class NewStoreTest {
         holdsNothing();
         limitIsOfTheLowestThreeBits();
         roomIsOfTheLowestFiveBits();
+        objectsShareNothing();
+        answersUpToThe512thCall();
         Probe.end();
     }
 
@@ -43,6 +45,36 @@ public final class NewStoreTest {
             p.put(0, arrayOfCount(rooms[i] + 1), 4);
             p.due("count", p.store.count(0), rooms[i]);
         }
+    }
+
+    private static void objectsShareNothing() {
+        Probe one = new Probe("one of two", 8, 32);
+        Probe other = new Probe("the other of two", 1, 2);
+        one.put(0, "{\"a\":[1,2]}", 0);
+        one.write("$.a[*]");
+        other.due("draft", other.store.draft(), 0);
+        other.put(0, "[3]", 0);
+        one.due("query", one.store.query(0), 2);
+        other.due("results", other.store.results(), 0);
+        one.store.commit();
+        other.store.crash();
+        other.text(0, null);
+        one.due("shown", one.shown(), "1 | 2");
+        one.text(0, "{\"a\":[1,2]}");
+    }
+
+    private static void answersUpToThe512thCall() {
+        Probe p = new Probe("an object is used for at most 512 calls");
+        for (int i = 0; i < 127; i++) {
+            p.due("write", p.store.write(Probe.packed("[" + i + "]")), true);
+            p.due("put", p.store.put(0), 0);
+            p.due("write", p.store.write(Probe.packed("$[0]")), true);
+            p.due("query", p.store.query(0), 1);
+        }
+        p.store.commit();
+        p.store.crash();
+        p.due("count", p.store.count(0), 2);
+        p.due("the 512th call", p.store.letter(0, 1), (int) '1');
     }
 
     private static String arrayOfCount(int count) {
